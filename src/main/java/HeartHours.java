@@ -321,7 +321,7 @@ public final class HeartHours {
         for (int k = 0; k < town.guilds; k++) {
             if (bit(gone, k) == 1) {
                 int there = town.dueWithShift(k);
-                if (Math.abs(there - quarter) + town.wayFrom(there, withBit(gone, k, 0)) == fewest) {
+                if (Math.abs(there - quarter) + town.wayFrom(there, gone) == fewest) {
                     return k;
                 }
             }
@@ -874,7 +874,6 @@ public final class HeartHours {
             gift[k] = itsGift;
             place[k] = itsPlace;
             waits = withBit(waits, k, 1);
-            done = withBit(done, k, 0);
             guilds = k + 1;
             return k;
         }
@@ -1273,7 +1272,6 @@ public final class HeartHours {
 
         void copyFrom(Rules from) {
             count = from.count;
-            size = from.size;
             System.arraycopy(from.kinds, 0, kinds, 0, RULES);
             System.arraycopy(from.doings, 0, doings, 0, RULES);
             System.arraycopy(from.ends, 0, ends, 0, RULES);

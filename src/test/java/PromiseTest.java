@@ -323,12 +323,14 @@ public final class PromiseTest {
             "guild if (((1=1))) come;", "guild if not come;", "guild if not not not 1=2 leave;", "Guild come;", "guildcome;",
             "guild if hour<3come;", "guild\tcome;", "12345", "guild if 1=1 and or 2=2 come;", "guild if 1=1 or come;",
             "if", "guild if guild = 1 come;", "guild if (1=1)(2=2) come;", "guild if 1=1 hour come;", "guild leave; doctor if",
-            "guild if () come;", "guild if number=00005 come;", "guild if number=0005 come;", ";"
+            "guild if () come;", "guild if number=00005 come;", "guild if number=0005 come;", ";",
+            "come come;", "guild if 1=1 if;", "guild hour;", "guild if come=1 come;", "guild if 1=1 come", "guild if 1 1 come;"
         };
         int[] answers = {
             -100, -105, -106, -110, 1, -111, -111, -108, -113, -115, -117, -116, 1,
             -115, -119, -117, -112, 1, -113, 1, -100, -100, 1, -105, -100, -117, -116,
-            -100, -109, -114, -113, -122, -110, -116, 1, -100
+            -100, -109, -114, -113, -122, -110, -116, 1, -100,
+            -100, -113, -106, -109, -117, -111
         };
         for (int i = 0; i < texts.length; i++) {
             HeartHours y = new HeartHours();
@@ -343,6 +345,17 @@ public final class PromiseTest {
         due("eight rules", tell(x, eight), 8);
         due("nine rules", tell(x, eight + " guild"), -100 - 81);
         due("nine rules", tell(x, eight + "; "), -100 - 80);
+        for (int i = 0; i < 30; i++) due("one text behind the other", tell(x, "guild if 1=1 and 2=2 and 3=3 wait;"), 1);
+        due("will", x.guildOf(0, 8), 1);
+        due("rules", tell(x, "guild if 1=2 wait; guild leave;"), 2);
+        due("will", x.guildOf(0, 8), 2);
+        tell(x, "guild if 1=12345");
+        due("no byte of the text before counts", tell(x, "guild if 1=1234"), -115);
+        due("z is a letter", tell(x, "guildz come;"), -100);
+        due("a is a letter", tell(x, "guilda come;"), -100);
+        due("bytes beside the letters", tell(x, "guild`come;"), -105);
+        due("bytes beside the letters", tell(x, "guild{come;"), -105);
+        due("bytes above 127", tell(x, "guild " + (char) 225 + "come;"), -106);
         due("an empty text", x.rules(), 0);
         due("no rules", x.many(1), 0);
         due("will", x.guildOf(0, 8), 0);
@@ -354,17 +367,32 @@ public final class PromiseTest {
         String[] conds = {
             "hour=0", "gift=5", "late=7", "mood=5", "number=0", "hour>0", "gift<5", "late>6", "5<mood", "9999>number",
             "1=1 or 1=1 and 1=2", "(1=1 or 1=1) and 1=2", "not 1=2 and 1=1", "not (1=2 or 1=1)", "not not 1=1",
-            "1=2 and 1=1 or 1=1", "not 1=1 or 1=1", "1=2 or 1=2 or 1=1", "1=1 and 1=1 and 1=2", "((1=2) or (not (2=1)))"
+            "1=2 and 1=1 or 1=1", "not 1=1 or 1=1", "1=2 or 1=2 or 1=1", "1=1 and 1=1 and 1=2", "((1=2) or (not (2=1)))",
+            "1=2 and 1=1", "1=1 or 1=2", "1=2 or 1=1 and (1=2 or 1=1)", "1=1 and (1=2 or 1=1 and 1=2)", "1=2 or (1=1 and (1=1 or 1=2))",
+            "1=2 and (1=1 or 1=1)", "1=1 or (1=2 and 1=2)", "late<10", "10=11", "late=17", "1234>1233", "0009=9"
         };
         boolean[] holds = {
             true, true, true, true, true, false, false, true, false, true,
-            true, false, true, false, true, true, true, true, false, true
+            true, false, true, false, true, true, true, true, false, true,
+            false, true, true, false, true,
+            false, true, true, false, false, true, true
         };
         HeartHours x = new HeartHours();
         x.guild(3, 7, 5, 0);
         for (int i = 0; i < conds.length; i++) {
             due("rules", tell(x, "guild if " + conds[i] + " leave; guild wait;"), 2);
             due("whether " + conds[i], x.guildOf(0, 8), holds[i] ? 2 : 1);
+        }
+        HeartHours y = quiet(4);
+        for (int k = 0; k < 3; k++) y.guild(1, 60, 7, 0);
+        y.hour();
+        y.hour();
+        y.heart(1, 48);
+        String[] facts = {"hour=2", "gift=7", "late=12", "mood=4", "number=1"};
+        for (String fact : facts) {
+            tell(y, "guild if " + fact + " leave; guild wait;");
+            due("whether " + fact, y.guildOf(1, 8), 2);
+            due("whether " + fact, y.guildOf(2, 8), fact.startsWith("number") ? 1 : 2);
         }
         String[] kinds = {"guild", "baker", "lawyer", "doctor", "book", "candle"};
         int[] above = {0, 1, 1, 1 | 4, 1, 1 | 16};
@@ -460,6 +488,8 @@ public final class PromiseTest {
         due("when, waits no more", x.when(3), NONE);
         due("when", x.when(4), BAD);
         due("when", x.when(-1), BAD);
+        x.ends(3);
+        due("when, the last hour", x.when(0), 2);
         x.ends(2);
         due("when, it is over", x.when(0), NONE);
         due("nothing changed", x.state(4), 7);
@@ -477,6 +507,21 @@ public final class PromiseTest {
         due("giftFor", x.giftFor(2), BAD);
         due("giftFor", x.giftFor(-1), BAD);
         due("nothing changed", x.state(0), 0);
+        tell(x, "baker if gift > 8 come; baker wait;");
+        due("giftFor, the most", x.giftFor(0), 9);
+        x.ends(1);
+        due("giftFor, in the last hour", x.giftFor(0), 9);
+        tell(x, "baker if gift > 9 come; baker wait;");
+        due("giftFor, no more than the most", x.giftFor(0), 0);
+        x.street(0, 1, 14);
+        tell(x, "baker if hour=1 and gift=5 leave; baker wait;");
+        due("giftFor, no hour beyond the end", x.giftFor(0), 0);
+        x.ends(2);
+        due("giftFor, the last hour", x.giftFor(0), 5);
+        x.change(0, 2, 4);
+        x.giftFor(0);
+        due("gift stays", x.guildOf(0, 2), 4);
+        tell(x, "");
         x.change(0, 4, 0);
         due("waits no more", x.giftFor(0), 0);
     }
@@ -493,6 +538,15 @@ public final class PromiseTest {
         due("dueFor, hands 1, 5", x.dueFor(0), 3);
         x.heart(1, 2);
         due("dueFor, hands 2", x.dueFor(0), 0);
+        x.street(0, 0, 0);
+        x.street(0, 1, 0);
+        x.ends(1);
+        x.change(0, 1, 30);
+        x.heart(1, 60);
+        due("dueFor, the most", x.dueFor(0), 60);
+        x.heart(1, 61);
+        due("dueFor, no more than the most", x.dueFor(0), 0);
+        due("due stays", x.guildOf(0, 1), 30);
         due("dueFor", x.dueFor(1), BAD);
         due("dueFor", x.dueFor(-1), BAD);
         due("hour", x.state(0), 0);
@@ -563,6 +617,19 @@ public final class PromiseTest {
         x.change(4, 1, 22);
         due("queues", x.queues(4), 24);
         due("queues", x.queues(-1), 3);
+        // 10, 40, 12, 20, 11: 0, 2, 4 hang together, with others between them
+        x.change(2, 4, 1);
+        x.change(1, 1, 40);
+        x.change(4, 1, 11);
+        due("queues", x.queues(-1), 3);
+        due("queues", x.queues(4), 21);
+        // a chain against the numbers: 10, 40, 14, 12, 16
+        x.change(3, 1, 12);
+        x.change(2, 1, 10);
+        x.change(4, 1, 16);
+        due("queues", x.queues(0), 29);
+        due("queues", x.queues(4), 29);
+        due("queues", x.queues(-1), 2);
     }
 
     private static void p23() {
@@ -618,6 +685,10 @@ public final class PromiseTest {
         due("nothing changed", x.state(2), 0);
         x.ends(1);
         due("fewer", x.best(4), 15);
+        x.news(0, 9);
+        tell(x, "baker if mood=2 come; guild wait;");
+        due("the news come first", x.best(1), 15);
+        x.news(0, 3);
         tell(x, "baker leave;");
         due("one that leaves is worth 1", x.best(1), 1);
         tell(x, "baker wait;");
@@ -678,6 +749,13 @@ public final class PromiseTest {
         due("charter", x.charter(1, -1), BAD);
         due("charter", x.charter(5, 0), BAD);
         due("charter", x.charter(-1, 0), BAD);
+        HeartHours y = quiet(4);
+        for (int k = 0; k < 4; k++) {
+            y.street(k, 1, 14);
+            y.guild(4, 5, 0, k);
+        }
+        due("four acts", y.charter(4, 15), 4);
+        due("four acts", y.charter(3, 15), NONE);
         x.change(0, 5, 1);
         due("done already", x.charter(0, 1), 0);
         due("done already", x.charter(4, 3), 1);
@@ -697,6 +775,10 @@ public final class PromiseTest {
         due("bars", x.bars(0, -1), BAD);
         due("bars", x.bars(5, 0), BAD);
         due("bars", x.bars(-1, 0), BAD);
+        HeartHours z = quiet(4);
+        z.guild(4, 12, 0, 0);
+        due("late 12, 8, 4, 0", z.bars(3, 1), 0);
+        due("behind three times none", z.bars(4, 1), NONE);
         // each by a plan of its own, though not both by one
         HeartHours y = quiet(4);
         y.guild(1, 0, 0, 0);
@@ -732,12 +814,22 @@ public final class PromiseTest {
         y.guild(2, 8, 9, 0);
         due("best", y.best(3), 13);
         due("spoilt in hour 1", y.game(3), 0);
+        // three books that are in time whenever they come
+        HeartHours z = quiet(4);
+        for (int k = 0; k < 3; k++) {
+            z.street(k, 1, 14);
+            z.guild(4, 0, 0, k);
+        }
+        // the first one tells two, 0 late and 8 late: 3 and 9, 3 and 1; the other one tells none
+        due("game of 4", z.game(4), 12 + 4);
+        due("game of 1", z.game(1), 12);
     }
 
     private static void p30() {
         HeartHours x = two();
         due("play", x.play(1), 1);
         due("play", x.play(2), 1);
+        due("play", x.play(4), 1);
         due("play", x.play(0), BAD);
         due("play", x.play(5), BAD);
         HeartHours y = quiet(4);
@@ -809,6 +901,15 @@ public final class PromiseTest {
         due("cause", x.cause(2), NONE);
         due("cause", x.cause(3), NONE);
         due("bad", x.cause(4), BAD);
+        // the greatest k first; news count
+        HeartHours w = quiet(0);
+        w.report(2, 1, 9, 9);
+        w.report(0, 1, 0, 0);
+        due("0 to 9 in two hours: none", w.cause(0), 0);
+        w.news(1, 12);
+        due("a baker by 6, news by 3", w.cause(0), 1);
+        due("a baker", w.cause(1), 1);
+        due("with gift 9", w.cause(2), 9);
         // a candle brings nothing in hour 4, which leaves 1 by 3; a book does
         HeartHours y = quiet(0);
         y.ends(1);
@@ -834,6 +935,10 @@ public final class PromiseTest {
         due("now it is 1", x.liar(), 1);
         x.report(0, 1, 4, 4);
         due("no such report", x.liar(), NONE);
+        x.forget();
+        x.report(0, 1, 4, 4);
+        x.report(0, 1, 3, 3);
+        due("either: the least", x.liar(), 0);
         x.forget();
         x.report(0, 0, 1, 1);
         due("hands are 0 at first", x.liar(), 0);
@@ -1081,6 +1186,14 @@ public final class PromiseTest {
         x.ends(5);
         due("over is left out", x.goAll(0, 2, 3), 0);
         due("hour", x.state(0), 5);
+        due("outside, though over", x.goAll(0, 4, 2), -12);
+        x.anew();
+        x.sheet(3, 0, 20);
+        x.write(3, 19, 1);
+        due("twenty items, five hours", x.goAll(3, 0, 20), 0);
+        x.anew();
+        x.heart(0, 4);
+        due("the last sheet's last item", x.goAll(3, 19, 1), 15);
     }
 
     private static void p46() {
@@ -1107,6 +1220,12 @@ public final class PromiseTest {
         due("missing", x.wouldBe(1, 0, 0), -11);
         x.sheet(2, 1, 1);
         due("another sort", x.wouldBe(2, 0, 0), -13);
+        x.sheet(3, 0, 40);
+        x.write(3, 39, 1);
+        due("the last sheet's last item", x.wouldBe(3, 39, 1), 15);
+        x.ends(16);
+        due("sixteen hours", x.wouldBe(3, 0, 16), 0);
+        due("twenty hours", x.wouldBe(3, 0, 20), STATE);
     }
 
     private static void p47() {
@@ -1289,7 +1408,7 @@ public final class PromiseTest {
         x.street(3, 1, 9);
         x.ends(9);
         x.seed(123);
-        x.report(1, 1, 2, 4);
+        x.report(0, 1, 2, 3);
         x.hour();
         x.heart(0, 6);
         x.heart(1, 33);
@@ -1303,7 +1422,9 @@ public final class PromiseTest {
         x.anew();
         x.ends(4);
         x.seed(5);
-        x.report(1, 1, 2, 4);
+        x.forget();
+        x.report(1, 1, 4, 4);
+        x.report(0, 1, 0, 9);
         x.remake(0, 3);
         x.change(0, 1, 50);
         x.change(0, 2, 7);
@@ -1326,6 +1447,7 @@ public final class PromiseTest {
             due("rules", x.many(1), 1);
             due("will", x.guildOf(1, 8), 2);
             due("reports", x.many(3), 1);
+            due("what it reports", x.cause(0), 100);
             due("street", x.streetOf(3, 0), 8);
             due("street", x.streetOf(3, 1), 9);
             due("news", x.news(2, 5), 9);
