@@ -28,7 +28,7 @@ public final class PromiseTest {
         }
     }
 
-    /** NEWS none (15), so that MOOD stays and HANDS go by 6 less half of it. */
+    /** NEWS none (3), so that MOOD stays and HANDS go by 6 less half of it. */
     private static HeartHours quiet(int mood) {
         HeartHours x = new HeartHours();
         for (int h = 0; h < 16; h++) x.news(h, 3);
