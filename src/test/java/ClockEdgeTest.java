@@ -180,6 +180,12 @@ public final class ClockEdgeTest extends Edge {
         still(() -> dues(10, 12, 15, 17, 20, 22), 48, "queues", 5);
     }
 
+    void p22_aQueueWithOthersBetweenIsCountedOnce() {
+        still(() -> dues(10, 30, 12), 2, "queues", -1);
+        still(() -> dues(10, 30, 12), 5, "queues", 0);
+        still(() -> dues(10, 30, 12, 32, 14, 34), 2, "queues", -1);
+    }
+
     void p22_sixByThemselves() {
         still(() -> dues(0, 3, 6, 9, 57, 60), 6, "queues", -1);
         for (int k = 0; k < 6; k++) due(dues(0, 3, 6, 9, 57, 60), 1 << k, "queues", k);
@@ -241,6 +247,13 @@ public final class ClockEdgeTest extends Edge {
         still(() -> gone(30), 0, "errands", 30, 1);
         still(() -> gone(30), 1, "errands", 31, 0);
         still(() -> gone(30), 1, "errands", 29, 0);
+    }
+
+    void p23_theLeastPlaceIsAt0() {
+        still(() -> gone(0), 5, "errands", 5, 0);
+        still(() -> gone(0), 99, "errands", 99, 0);
+        still(() -> gone(0), 0, "errands", 0, 0);
+        still(() -> gone(0), 0, "errands", 5, 1);
     }
 
     void p23_shiftCounts() {

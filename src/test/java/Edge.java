@@ -201,6 +201,13 @@ abstract class Edge {
         return x;
     }
 
+    /** A baker without a gift that is in time in one HOUR alone, if at all, as its STREET bears nothing. */
+    static HeartHours dueAt(int quarter) {
+        HeartHours x = lone(1, quarter, 0);
+        x.street(0, 1, 0);
+        return x;
+    }
+
     /** Quiet, MOOD 4; a baker due at 0, a book due at 4, both without gifts, in STREET 0, which bears 3. */
     static HeartHours two() {
         HeartHours x = lone(1, 0, 0);

@@ -4,12 +4,6 @@ public final class GameEdgeTest extends Edge {
         new GameEdgeTest().run(29, 37);
     }
 
-    private static HeartHours dueAt(int quarter) {
-        HeartHours x = lone(1, quarter, 0);
-        x.street(0, 1, 0);
-        return x;
-    }
-
     // ---- 29: game
 
     void p29_nIs1To4() {
@@ -334,6 +328,10 @@ public final class GameEdgeTest extends Edge {
         still(HeartHours::new, NONE, "liar");
         still(() -> reported(0, 1, 3, 3), NONE, "liar");
         still(() -> reported(0, 0, 0, 0, 0, 1, 3, 3), NONE, "liar");
+        // a candle alone fits, the greatest kind
+        still(() -> reported(0, 1, 0, 0, 4, 1, 2, 2, 5, 1, 2, 2), NONE, "liar");
+        // the greatest mood alone fits
+        still(() -> reported(0, 1, 9, 9), NONE, "liar");
     }
 
     void p34_oneThatCanNotBe() {
@@ -343,6 +341,7 @@ public final class GameEdgeTest extends Edge {
 
     void p34_theLeastOfSeveral() {
         still(() -> reported(0, 1, 3, 3, 0, 1, 4, 4), 0, "liar");
+        still(() -> reported(0, 1, 4, 4, 0, 1, 3, 3), 0, "liar");
         still(() -> reported(0, 1, 0, 9, 0, 1, 3, 3, 0, 1, 4, 4), 1, "liar");
     }
 

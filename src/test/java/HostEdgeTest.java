@@ -684,6 +684,30 @@ public final class HostEdgeTest extends Edge {
         due(thing(1, 4, 0), 1, "act", 0, 2, LOWEST);
     }
 
+    void p49_whatKindsMakeOfThanks() {
+        due(thing(0, 4, 5), -1, "act", 0, 2, 7);
+        due(thing(0, 4, 5), 3, "act", 0, 2, -7);
+        due(thing(0, 4, 5), 1, "act", 0, 2, 0);
+        due(thing(0, 4, 5), 4, "act", 0, 2, LOWEST);
+        // 1 less what 7 leaves by 3, and thrice 5 less 2
+        due(thing(2, 5, 5), 13, "act", 0, 2, 7);
+        due(thing(2, 5, 5), 15, "act", 0, 2, -7);
+    }
+
+    void p49_whatKindsMakeOfDeals() {
+        // 25 and 1 share a bit
+        due(thing(0, 1, 5), 24, "act", 0, 3, 6);
+        due(thing(1, 2, 3), 22, "act", 0, 3, 7);
+        // 14 ^ 1, less what it tells of its street: (thrice 3, less 2) ^ 9, and 10
+        due(thing(2, 3, 5), 15 - 24, "act", 0, 3, 7);
+        // (18 and 2) ^ 0
+        due(thing(3, 4, 1), 20, "act", 0, 3, 7);
+        // 4 times 21, ^ 2
+        due(thing(4, 5, 2), 84 ^ 2, "act", 0, 3, 7);
+        // below 0, both of them
+        due(thing(0, 1, 5), -14 ^ -2, "act", 0, 3, -7);
+    }
+
     void p49_partedBy0IsAllThatIsAnswered() {
         int[][] bodies = {{12}, {12}, {12}, {40, 12}, {61, 40, 12}};
         for (int number = 0; number <= 5; number++) {

@@ -261,10 +261,8 @@ public final class HoursEdgeTest extends Edge {
         still(Edge::over, BAD, "when", 2);
     }
 
-    /** One that is in time in one HOUR alone, as its STREET bears nothing. */
     private static HeartHours dueAt(int quarter, int end) {
-        HeartHours x = lone(1, quarter, 0);
-        x.street(0, 1, 0);
+        HeartHours x = dueAt(quarter);
         x.ends(end);
         return x;
     }

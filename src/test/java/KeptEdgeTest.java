@@ -98,6 +98,19 @@ public final class KeptEdgeTest extends Edge {
         });
     }
 
+    void p52_sixReportsAreKept() {
+        HeartHours x = quiet(5);
+        for (int r = 0; r < 6; r++) x.report(0, 1, 0, 9 - r);
+        x.keep();
+        due(x, 250, "cause", 0);
+        x.forget();
+        for (int r = 0; r < 6; r++) x.report(15 - r, 1, 9, 9);
+        due(x, 0, "again");
+        due(x, 6, "many", 3);
+        due(x, 250, "cause", 0);
+        due(x, -2, "report", 0, 0, 0, 0);
+    }
+
     void p52_rulesAreKept() {
         HeartHours x = busyWithoutTape();
         x.keep();

@@ -4,13 +4,6 @@ public final class PlansEdgeTest extends Edge {
         new PlansEdgeTest().run(24, 28);
     }
 
-    /** One that is in time in one HOUR alone (HANDS are 0, 4, 8, ..). */
-    private static HeartHours dueAt(int quarter) {
-        HeartHours x = lone(1, quarter, 0);
-        x.street(0, 1, 0);
-        return x;
-    }
-
     /** A lawyer that is never in time makes MOOD 1, HANDS go by 6: only so is the baker, due at 6, in time in HOUR 1. */
     private static HeartHours helped() {
         HeartHours x = lone(2, 60, 0);
@@ -181,6 +174,22 @@ public final class PlansEdgeTest extends Edge {
         // the baker in HOUR 0, the book in HOUR 1, then any of three acts
         still(Edge::two, 3, "ways", 3);
         still(PlansEdgeTest::helped, 1, "ways", 2);
+    }
+
+    void p26_tellingOneThatDoesNotWaitIsAWayAsWell() {
+        HeartHours x = dueAt(12);
+        x.guild(1, 0, 0, 0);
+        x.change(1, 4, 0);
+        // in HOURS 0, 1 and 2 none or the second is told, in HOUR 3 the first
+        due(x, 8, "ways", 4);
+        due(x, 27, "ways", 3);
+    }
+
+    void p26_tellingOneThatDoesNotWaitIsNoBetterWay() {
+        HeartHours x = two();
+        x.change(1, 4, 0);
+        due(x, 1, "ways", 1);
+        due(x, 3, "ways", 2);
     }
 
     // ---- 27: charter

@@ -169,6 +169,17 @@ public final class RulesEdgeTest extends Edge {
         fault(200, "guild wait" + times(190, " "));
     }
 
+    void p14_bytesOfTheTextAheadDoNotCount() {
+        HeartHours x = lone(3, 10, 5);
+        same("rules", tell(x, "guild if 1=12345"), -111);
+        same("rules", tell(x, "guild if 1=1234"), -115);
+        same("rules", tell(x, "guilds"), -100);
+        same("rules", tell(x, "guild"), -105);
+        same("rules", tell(x, "guild come; book come;"), 2);
+        same("rules", tell(x, "guild come;"), 1);
+        fault(200, times(188, " ") + "guild if 1=1");
+    }
+
     void p14_aLongConditionFillsTheTape() {
         String ors = "guild if " + times(26, "1=2 or ") + "1=1";
         taken(1, ors + " wait;");
@@ -353,6 +364,31 @@ public final class RulesEdgeTest extends Edge {
         fault(11, "guild if 1=(1) come;");
     }
 
+    void p14_aComparisonIsWhole() {
+        fault(9, "guild if come;");
+        fault(9, "guild if =1 come;");
+        fault(11, "guild if 1 come;");
+        fault(12, "guild if 1= come;");
+        fault(14, "guild if hour come;");
+        fault(11, "guild if 1 and 1=1 come;");
+        fault(12, "guild if (1 ) come;");
+        fault(12, "guild if 1=1=1 come;");
+    }
+
+    void p14_conditionsAreJoinedByOneName() {
+        fault(13, "guild if 1=1 2=2 come;");
+        fault(13, "guild if 1=1 not 2=2 come;");
+        fault(13, "guild if 1=1 (2=2) come;");
+        fault(17, "guild if 1=1 and come;");
+        fault(16, "guild if 1=1 or come;");
+        fault(17, "guild if 1=1 and or 2=2 come;");
+        fault(16, "guild if 1=1 or or 2=2 come;");
+        fault(13, "guild if not come;");
+        fault(13, "guild if not and 1=1 come;");
+        fault(13, "guild if 1=1 if;");
+        fault(13, "guild if 1=1 if 1=1 come;");
+    }
+
     void p14_aSignIsOneByte() {
         fault(11, "guild if 1<=2 come;");
         fault(11, "guild if 1==2 come;");
@@ -384,6 +420,32 @@ public final class RulesEdgeTest extends Edge {
         holds(false, "hour=1");
         holds(true, "hour<3 and hour>1");
         holds(true, "late<8 and late>6");
+    }
+
+    void p14_numbersAreReadByTens() {
+        HeartHours x = lone(1, 0, 0);
+        x.heart(1, 99);
+        String[] so = {"late=99", "late=099", "late=0099", "late>98", "late<100", "late<0100", "1000>999", "0999<1000"};
+        for (String condition : so) {
+            tell(x, "guild if " + condition + " leave; guild wait;");
+            same("whether " + condition, x.guildOf(0, 8), 2);
+        }
+        x.heart(1, 45);
+        tell(x, "guild if late=45 leave;");
+        due(x, 2, "guildOf", 0, 8);
+    }
+
+    void p14_allAndSome() {
+        holds(true, "1=1 and 2=2");
+        holds(false, "1=1 and 2=1");
+        holds(false, "1=2 and 2=2");
+        holds(false, "1=2 and 2=1");
+        holds(true, "1=1 or 2=2");
+        holds(true, "1=1 or 2=1");
+        holds(true, "1=2 or 2=2");
+        holds(false, "1=2 or 2=1");
+        holds(false, "1=2 or 2=1 or 3=1");
+        holds(true, "1=1 and 2=2 and 3=3");
     }
 
     void p14_andBindsMoreThanOr() {

@@ -107,6 +107,17 @@ public final class TownEdgeTest extends Edge {
         alike("the use of another", one, busy());
     }
 
+    void p1_anObjectIsGoodFor512Calls() {
+        HeartHours x = new HeartHours();
+        for (int i = 0; i < 170; i++) {
+            x.feed(' ', 1);
+            x.rules();
+            x.keep();
+        }
+        due(x, 1, "seed", 44);
+        due(x, 44, "seed", 1);
+    }
+
     // ---- 2: guild
 
     void p2_kindIs1AtLeast() {
@@ -311,8 +322,7 @@ public final class TownEdgeTest extends Edge {
     }
 
     void p3_candleCheers0InHoursThatLeave1By3() {
-        for (int hour = 0; hour <= 16; hour++) cheers(hour == 1 || hour == 4 || hour == 7 || hour == 10 || hour == 13 || hour == 16
-            ? 10 : 11, 5, 2, hour);
+        for (int hour = 0; hour <= 16; hour++) cheers(hour % 3 == 1 ? 10 : 11, 5, 2, hour);
         cheers(12, 5, 9, 0);
         cheers(10, 5, 9, 1);
         cheers(12, 5, 9, 2);
